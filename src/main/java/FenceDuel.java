@@ -735,7 +735,7 @@ public final class FenceDuel {
         }
 
         private void relabel(int from, int to) {
-            for (int each = 0; from != to && each < FIELDS; each++) {
+            for (int each = 0; each < FIELDS; each++) {
                 if (labels[each] == from) {
                     labels[each] = to;
                 }

@@ -237,12 +237,34 @@ public final class PromisesTest {
             due("player", x.writeTruce(far, 1), UNKNOWN);
             due("days", x.writeTruce(0, far), BAD_VALUE);
         }
+        truceEndsWithEitherEnd();
         FenceDuel full = withAllLettersWritten();
         due("full", full.writeTruce(0, 1), FULL);
         due("days ahead of full", full.writeTruce(0, 100), BAD_VALUE);
         due("player ahead of full", full.writeTruce(2, 1), UNKNOWN);
         full.undo();
         due("room again", full.writeTruce(1, 7), 59);
+    }
+
+    private static void truceEndsWithEitherEnd() {
+        FenceDuel x = new FenceDuel();
+        x.pass(2);
+        x.writeTruce(0, 1);
+        due("is an act", x.undo(), 1);
+        due("of this call alone", x.count(0), 2);
+        due("no letter", x.count(1), 0);
+        x.writeTruce(0, 1);
+        x.writeTruce(1, 2);
+        x.pass(3);
+        due("truce", x.count(13), 1);
+        x.pass(1);
+        due("the end of 0", x.count(13), 0);
+        x.writeTruce(0, 50);
+        x.undo();
+        x.undo();
+        x.undo();
+        due("the end is undone", x.count(14), 0);
+        due("turns are undone", x.count(5), 0);
     }
 
     private static void promise5() {
@@ -296,6 +318,10 @@ public final class PromisesTest {
         due("in days", late.next(1), 3);
         due("comes at last", late.letter(0, 5), 10002);
         lettersComeByDayThenByNumber();
+        FenceDuel full = withAllLettersWritten();
+        due("none of them refused", full.ifAllCome(3), 0);
+        due("all on one day", full.pass(3), 60);
+        due("all done", full.count(3), 60);
     }
 
     private static void lettersComeByDayThenByNumber() {
@@ -310,6 +336,35 @@ public final class PromisesTest {
         due("the other one came then", x.letter(0, 8), 2);
         due("and was refused", x.letter(0, 7), 1);
         due("day", x.count(0), 99);
+        // The first that comes has nobody to share its turn with, whatever its number is.
+        FenceDuel y = new FenceDuel();
+        y.set(0, 9);
+        y.writeEdge(0, false, 0, 1);
+        y.set(0, 1);
+        y.writeEdge(1, false, 0, 1);
+        y.pass(1);
+        due("alone", y.letter(1, 9), NONE);
+        due("its fence", y.edge(0, 1), 2);
+        y.pass(8);
+        due("both crossed", y.letter(1, 9), 0);
+        due("the hedge", y.edge(0, 1), 3);
+        crossedLettersOfOtherKinds();
+    }
+
+    private static void crossedLettersOfOtherKinds() {
+        FenceDuel x = new FenceDuel();
+        x.set(0, 1);
+        performText(x, "0f0e;.1;0g0e;1f0e;.1");
+        due("one turn", x.letter(2, 9), 1);
+        due("a fence behind a gap", x.edge(0, 1), 2);
+        performText(x, "0f9e;1g9e;.1");
+        due("one turn", x.letter(4, 9), 3);
+        due("a gap behind a fence", x.edge(9, 1), 0);
+        performText(x, "0f9e;1f9s;.1");
+        due("fences at two edges", x.edge(9, 1) * 10 + x.edge(9, 2), 12);
+        performText(x, "0f9e;1f9e;.1");
+        due("the first was refused", x.letter(8, 7), 1);
+        due("a fence still", x.edge(9, 1), 1);
     }
 
     private static void promise7() {
@@ -696,6 +751,7 @@ public final class PromisesTest {
         due("edges", x.field(11, 4), 1);
         due("edges", x.field(12, 4), 1);
         due("edges", x.field(47, 4), 0);
+        due("to the north", x.field(9, 4), 1);
         due("owner", x.field(1, 0), NONE);
         performText(x, "1c1;.1");
         due("owner", x.field(0, 0), 1);
