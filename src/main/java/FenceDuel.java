@@ -727,8 +727,10 @@ public final class FenceDuel {
                 labels[each] = each;
             }
             for (int edge = 0; edge < EDGES; edge++) {
-                if (state.onEdges[edge] == NOTHING) {
-                    relabel(labels[ground.farField[edge]], labels[ground.nearField[edge]]);
+                int far = ground.farField[edge];
+                int near = ground.nearField[edge];
+                if (state.onEdges[edge] == NOTHING && isField(far) && isField(near)) {
+                    relabel(labels[far], labels[near]);
                 }
             }
             return isField(field) ? countLabel(labels[field]) : 0;
