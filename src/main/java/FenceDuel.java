@@ -447,7 +447,8 @@ public final class FenceDuel {
         }
 
         private void layEdge(int edge, int field, int side, int other) {
-            if (!isEdge(edge) || !isField(field) || !isField(other)) {
+            boolean isSide = side >= 0 && side < SIDES;
+            if (!isEdge(edge) || !isField(field) || !isSide || !isField(other)) {
                 return;
             }
             int there = field * SIDES + side;
@@ -683,12 +684,18 @@ public final class FenceDuel {
 
         /** The fields are gone through upward, so that a start is the lowest field of its region. */
         private void spreadFrom(State state, int start) {
+            if (!isField(start)) {
+                return;
+            }
             lowest[start] = start;
             reached[0] = start;
             int known = 1;
             int nobodys = 0;
             for (int at = 0; at < known && at < FIELDS; at++) {
                 int field = reached[at];
+                if (!isField(field)) {
+                    continue;
+                }
                 if (state.takers[field] == NONE) {
                     nobodys++;
                 }
@@ -703,9 +710,11 @@ public final class FenceDuel {
                     }
                 }
             }
-            for (int at = 0; at < known && at < FIELDS; at++) {
-                sizes[reached[at]] = known;
-                free[reached[at]] = nobodys;
+            for (int field = start; field < FIELDS; field++) {
+                if (lowest[field] == start) {
+                    sizes[field] = known;
+                    free[field] = nobodys;
+                }
             }
         }
 
@@ -885,12 +894,14 @@ public final class FenceDuel {
     /** The latest states that acts have left, in a ring. */
     private static final class History {
         private final State[] states = {new State(), new State(), new State(), new State()};
-        private int latest = MOST_STATES - 1;
+        /** The place behind the latest state, where one more will stand. */
+        private int behind;
         int size;
 
         void add(State state) {
-            latest = (latest + 1) % MOST_STATES;
-            states[latest].takeFrom(state);
+            int place = Math.floorMod(behind, MOST_STATES);
+            states[place].takeFrom(state);
+            behind = place + 1;
             if (size < MOST_STATES) {
                 size++;
             }
@@ -901,8 +912,9 @@ public final class FenceDuel {
             if (size == 0) {
                 return NONE;
             }
+            int latest = Math.floorMod(behind - 1, MOST_STATES);
             state.takeFrom(states[latest]);
-            latest = (latest + MOST_STATES - 1) % MOST_STATES;
+            behind = latest;
             size--;
             return size;
         }
@@ -921,7 +933,7 @@ public final class FenceDuel {
         final int[] sides = new int[MOST_CHARACTERS];
 
         int append(char character) {
-            if (length >= MOST_CHARACTERS) {
+            if (length < 0 || length >= MOST_CHARACTERS) {
                 return FULL;
             }
             text[length] = character;
@@ -937,6 +949,12 @@ public final class FenceDuel {
 
         int part(int[] parts, int thing) {
             return thing >= 0 && thing < parts.length ? parts[thing] : NONE;
+        }
+
+        private void putPart(int[] parts, int thing, int value) {
+            if (thing >= 0 && thing < parts.length) {
+                parts[thing] = value;
+            }
         }
 
         /** Reads the game; tells where the text has its fault, NONE if it has none. */
@@ -965,14 +983,14 @@ public final class FenceDuel {
             int first = look();
             if (first == '.') {
                 at++;
-                kinds[thing] = DAYS;
+                putPart(kinds, thing, DAYS);
                 return readNumber(thing, 1, MOST_DAYS);
             }
             if (first != '0' && first != '1') {
                 return false;
             }
             at++;
-            players[thing] = first - '0';
+            putPart(players, thing, first - '0');
             return readLetter(thing);
         }
 
@@ -982,7 +1000,7 @@ public final class FenceDuel {
                 return false;
             }
             at++;
-            kinds[thing] = kind;
+            putPart(kinds, thing, kind);
             switch (kind) {
                 case CLAIM: return readNumber(thing, 0, FIELDS - 1);
                 case TRUCE: return readNumber(thing, 1, MOST_DAYS);
@@ -1002,7 +1020,7 @@ public final class FenceDuel {
                 at++;
                 number = number * 10 + digit;
             }
-            numbers[thing] = number;
+            putPart(numbers, thing, number);
             return true;
         }
 
@@ -1012,7 +1030,7 @@ public final class FenceDuel {
                 return false;
             }
             at++;
-            sides[thing] = side;
+            putPart(sides, thing, side);
             return true;
         }
 

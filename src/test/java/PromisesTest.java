@@ -1019,8 +1019,21 @@ public final class PromisesTest {
         }
     }
 
+    // The calls that README.md shows, with the answers that it tells.
+    private static void examplesOfReadme() {
+        FenceDuel duel = new FenceDuel();
+        due("writeEdge", duel.writeEdge(0, false, 0, 1), 0);
+        due("writeEdge", duel.writeEdge(1, false, 1, 3), 1);
+        due("ifAllCome", duel.ifAllCome(2), 1);
+        due("pass", duel.pass(3), 2);
+        due("edge", duel.edge(0, 1), 3);
+        due("undo", duel.undo(), 2);
+        due("perform", performText(duel, "0f9e;1g9e;0c9;1t5;.3"), 5);
+    }
+
     public static void main(String[] args) {
         promise1();
+        examplesOfReadme();
         promise2();
         promise3();
         promise4();
